@@ -1,0 +1,40 @@
+/** Choirs that several tests begin with. */
+final class Choirs {
+    private Choirs() {
+    }
+
+    /** Adds a chord with tones given as n, d, n, d and so on. */
+    static void add(CommaChoir x, int... terms) {
+        int c = x.chord();
+        for (int i = 0; i + 1 < terms.length; i += 2) {
+            x.tone(c, terms[i], terms[i + 1]);
+        }
+    }
+
+    /** C, a minor, d minor, G, C with held tones: down by the comma 80 by 81. */
+    static CommaChoir commaPump() {
+        CommaChoir x = new CommaChoir();
+        add(x, 1, 1, 5, 4, 3, 2);
+        add(x, 1, 1, 6, 5, 3, 2);
+        add(x, 1, 1, 6, 5, 3, 2);
+        add(x, 1, 1, 5, 4, 3, 2);
+        add(x, 1, 1, 5, 4, 3, 2);
+        x.holds(0, 0, 1);
+        x.holds(1, 0, 2);
+        x.holds(2, 0, 2);
+        x.holds(3, 0, 2);
+        return x;
+    }
+
+    static void typeAll(CommaChoir x, String text) {
+        x.clear();
+        for (int i = 0; i < text.length(); i++) {
+            x.type(text.charAt(i));
+        }
+    }
+
+    static int doesText(CommaChoir x, String text) {
+        typeAll(x, text);
+        return x.does();
+    }
+}

@@ -1,0 +1,101 @@
+/** Promises 14 to 17: parts, how their drift is spread, counts. */
+public final class PartsTest {
+    private static final Due due = new Due();
+
+    public static void main(String[] args) {
+        part();
+        share();
+        shareLimit();
+        set();
+        count();
+        due.end();
+    }
+
+    private static int[] partRow(CommaChoir x, int p) {
+        return new int[] {x.part(p, 0), x.part(p, 1), x.part(p, 2), x.part(p, 3)};
+    }
+
+    private static int[] shares(CommaChoir x, int ties) {
+        int[] got = new int[ties];
+        for (int c = 0; c < ties; c++) {
+            got[c] = x.share(c);
+        }
+        return got;
+    }
+
+    private static void part() {
+        CommaChoir x = Choirs.commaPump();
+        due.are("14: whole", partRow(x, 0), 0, 5, -2153, 0);
+        x.frees(0);
+        x.frees(1);
+        due.are("14: one chord", partRow(x, 0), 0, 1, 0, 0);
+        due.are("14: one chord within", partRow(x, 1), 1, 1, 0, 0);
+        due.are("14: the last", partRow(x, 2), 2, 3, -20392, -16392);
+        due.is("14: no part", x.part(3, 0), Due.BAD);
+        due.is("14: part below 0", x.part(-1, 0), Due.BAD);
+        due.is("14: what too great", x.part(0, 4), Due.BAD);
+        due.is("14: what below 0", x.part(0, -1), Due.BAD);
+        due.is("14: without chords", new CommaChoir().part(0, 0), Due.BAD);
+    }
+
+    private static void share() {
+        CommaChoir x = Choirs.commaPump();
+        due.are("15: the first gets 1 more", shares(x, 4), 539, 538, 538, 538);
+        due.is("15: the last chord", x.share(4), Due.NO);
+        x.frees(1);
+        due.is("15: free", x.share(1), Due.NO);
+        due.is("15: of a part of two", x.share(0), 2000);
+        due.is("15: no chord", x.share(5), Due.BAD);
+        due.is("15: chord below 0", x.share(-1), Due.BAD);
+        due.is("15: counted", x.told(1), 2);
+    }
+
+    private static void shareLimit() {
+        CommaChoir x = Choirs.commaPump();
+        x.limit(539);
+        due.are("15: limit as great as 1 more", shares(x, 4), 539, 538, 538, 538);
+        x.limit(538);
+        due.are("15: limit cuts the 1 more", shares(x, 4), 538, 538, 538, 538);
+        due.is("14: rest of it", x.part(0, 3), -1);
+        x.limit(500);
+        due.are("15: limit cuts all", shares(x, 4), 500, 500, 500, 500);
+        due.is("14: rest of all", x.part(0, 3), -153);
+        x.limit(0);
+        due.are("15: limit 0", shares(x, 4), 0, 0, 0, 0);
+        due.is("14: rest of nothing", x.part(0, 3), -2153);
+        CommaChoir y = new CommaChoir();
+        Choirs.add(y, 3, 2);
+        Choirs.add(y, 1, 1);
+        y.holds(0, 0, 0);
+        due.is("15: e is -49804", y.share(0), 2000);
+        y.tunes(0, 0, 16, 15);
+        y.limit(9999);
+        due.is("10: drift above 0", y.root(1, 5), 11173);
+        due.is("15: sign turned", y.share(0), -9999);
+        due.is("14: rest above 0", y.part(0, 3), 1174);
+    }
+
+    private static void set() {
+        CommaChoir x = Choirs.commaPump();
+        int[] sets = {x.set(0), x.set(1), x.set(2), x.set(3), x.set(4)};
+        due.are("16: sets", sets, 0, 539, 1077, 1615, 2153);
+        x.frees(1);
+        int[] freed = {x.set(0), x.set(1), x.set(2), x.set(3), x.set(4)};
+        due.are("16: sets of two parts", freed, 0, 2000, 0, 2000, 4000);
+        due.is("16: no chord", x.set(5), Due.BAD);
+        due.is("16: chord below 0", x.set(-1), Due.BAD);
+    }
+
+    private static void count() {
+        CommaChoir x = Choirs.commaPump();
+        int[] got = {x.count(0), x.count(1), x.count(2), x.count(3), x.count(4), x.count(5)};
+        due.are("17: counts", got, 5, 1, 4, 15, 2000, 539);
+        x.frees(2);
+        x.limit(1999);
+        int[] then = {x.count(0), x.count(1), x.count(2), x.count(3), x.count(4), x.count(5)};
+        due.are("17: counts of two parts", then, 5, 2, 3, 15, 1999, 1999);
+        due.is("17: below 0", x.count(-1), Due.BAD);
+        due.is("17: too great", x.count(6), Due.BAD);
+        due.is("17: counted", x.told(0), 2);
+    }
+}
