@@ -166,7 +166,12 @@ public final class ChordsTest {
         due.is("7: a new one", x.chord(), 4);
         due.is("7: is free", x.tie(3, 0), Due.NONE);
         due.is("7: has no tones", x.tunes(4, 0, 1, 1), Due.BAD);
-        for (int left = 4; left >= 0; left--) {
+        for (int left = 4; left >= 1; left--) {
+            due.is("7: down", x.drops(), left);
+        }
+        due.is("7: the second anew", x.chord(), 1);
+        due.is("7: is free, too", x.tie(0, 0), Due.NONE);
+        for (int left = 1; left >= 0; left--) {
             due.is("7: down", x.drops(), left);
         }
         due.is("7: none", x.drops(), Due.NO);

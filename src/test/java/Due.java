@@ -24,6 +24,10 @@ final class Due {
         }
     }
 
+    int asked() {
+        return asked;
+    }
+
     boolean isFaultless() {
         return wrong == 0;
     }

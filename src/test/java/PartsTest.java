@@ -6,6 +6,7 @@ public final class PartsTest {
         part();
         share();
         shareLimit();
+        shareOfLaterPart();
         set();
         count();
         due.end();
@@ -73,6 +74,39 @@ public final class PartsTest {
         due.is("10: drift above 0", y.root(1, 5), 11173);
         due.is("15: sign turned", y.share(0), -9999);
         due.is("14: rest above 0", y.part(0, 3), 1174);
+    }
+
+    /** The comma pump again, with two free chords ahead of it. */
+    private static void shareOfLaterPart() {
+        CommaChoir x = new CommaChoir();
+        Choirs.add(x, 1, 1);
+        Choirs.add(x, 1, 1);
+        Choirs.add(x, 1, 1, 6, 5);
+        Choirs.add(x, 6, 5, 1, 1);
+        Choirs.add(x, 3, 2, 1, 1);
+        Choirs.add(x, 3, 2, 1, 1);
+        x.limit(9999);
+        x.holds(2, 0, 0);
+        x.holds(3, 1, 0);
+        x.holds(4, 1, 0);
+        due.is("15: e", x.part(2, 2), -31565 - 70196 - 70196 + 120000);
+        x.tunes(5, 0, 4, 3);
+        due.is("15: e in steps", x.part(2, 2), -31565 - 70196 - 49804 + 120000);
+        x.tunes(4, 0, 64, 63);
+        due.is("15: e in small steps", x.part(2, 2), -31565 - 2725 - 49804 + 120000);
+        int[] got = {x.share(2), x.share(3), x.share(4), x.set(2), x.set(3), x.set(4), x.set(5)};
+        due.are("15: cut at the limit", got, -9999, -9999, -9999, 0, -9999, -19998, -29997);
+        x.tunes(3, 0, 1, 1);
+        x.tunes(5, 0, 1, 1);
+        due.is("15: e of one step", x.part(2, 2), -2725);
+        int[] small = {x.share(2), x.share(3), x.share(4)};
+        due.are("15: 908 each, 1 left over", small, 909, 908, 908);
+        due.is("14: no rest", x.part(2, 3), 0);
+        due.is("17: greatest", x.count(5), 909);
+        x.limit(908);
+        due.is("14: 1 is left", x.part(2, 3), -1);
+        x.tunes(4, 0, 1, 1);
+        due.is("15: e is 0", x.share(2), 0);
     }
 
     private static void set() {

@@ -6,6 +6,7 @@ public final class TextsTest {
         type();
         clear();
         faults();
+        faultsForgotten();
         doesOrders();
         doesForms();
         doesRefused();
@@ -13,6 +14,7 @@ public final class TextsTest {
         back();
         backOfEachCall();
         told();
+        toldOfEachCall();
         digest();
         due.end();
     }
@@ -63,6 +65,18 @@ public final class TextsTest {
             x.clear();
             due.is("24: nothing done by '" + text + "'", x.digest(), before);
         }
+    }
+
+    /** A text cut off inside a number or an order leaves nothing for the next reading. */
+    private static void faultsForgotten() {
+        CommaChoir x = new CommaChoir();
+        due.is("24: ends in a number", Choirs.doesText(x, "t0"), -12);
+        due.is("24: figure at the start", Choirs.doesText(x, "1 1 1;"), -10);
+        due.is("24: wrong in a number", Choirs.doesText(x, "l123x"), -14);
+        due.is("24: four figures", Choirs.doesText(x, "l1234;"), 1);
+        due.is("24: ends in an order", Choirs.doesText(x, "c;t0 1"), -16);
+        due.is("24: as if new", Choirs.doesText(x, "c;"), 1);
+        due.is("24: one chord", x.count(0), 1);
     }
 
     private static void doesOrders() {
@@ -212,6 +226,33 @@ public final class TextsTest {
         x.back();
         due.is("26: back does not take them back", x.told(0), 3);
         due.is("26: states", x.told(4), 4);
+    }
+
+    private static void toldOfEachCall() {
+        CommaChoir x = new CommaChoir();
+        x.chord();
+        int[] answers = {x.tone(1, 1, 1), x.tunes(0, 0, 1, 1), x.holds(0, 0, 0), x.frees(1), x.limit(-1),
+            x.of(0, 0, 0), x.root(1, 0), x.pitch(0, 0, 0), x.tie(1, 0), x.loop(0, 1, 0), x.part(1, 0),
+            x.share(1), x.set(1), x.count(6), x.interval(0, 0, 1, 0), x.order(0, 0), x.voice(5, 0),
+            x.leap(0, 0), x.type(128), x.told(5)};
+        for (int answer : answers) {
+            due.is("26: BAD", answer, Due.BAD);
+        }
+        due.is("26: BAD of each call", x.told(0), answers.length);
+        x.tone(0, 1, 1);
+        x.chord();
+        int[] refused = {x.holds(1, 0, 0), x.frees(1), x.tie(1, 0), x.loop(0, 1, 0), x.share(0), x.share(1)};
+        due.are("26: NO of each call", refused, Due.BAD, Due.NO, Due.NO, Due.NO, Due.NO, Due.NO);
+        due.is("26: how often NO", x.told(1), 5);
+        x.drops();
+        x.drops();
+        due.is("26: drops", x.drops(), Due.NO);
+        for (int left = 4; left >= 0; left--) {
+            x.back();
+        }
+        due.is("26: back", x.back(), Due.NO);
+        due.is("26: how often NO at last", x.told(1), 7);
+        due.is("26: how often BAD at last", x.told(0), answers.length + 1);
     }
 
     private static void digest() {

@@ -104,6 +104,12 @@ public final class TonesTest {
         due.is("21: v too great", x.leap(5, 1), Due.BAD);
         x.chord();
         due.is("21: no tone there", x.leap(0, 5), Due.NONE);
+        CommaChoir y = new CommaChoir();
+        Choirs.add(y, 2, 1, 3, 2);
+        Choirs.add(y, 1, 1, 5, 4, 7, 4);
+        y.holds(0, 1, 0);
+        due.is("21: another tone of the same voice", y.leap(0, 1), 2000);
+        due.is("21: one of three, one of two", y.leap(2, 1), 70196 + 336883 - 240000 + 2000 - 120000);
         x.chord();
         due.is("21: none on both sides", x.leap(4, 6), Due.NONE);
         due.is("21: NONE is not refused", x.told(0), 5);
