@@ -7,6 +7,7 @@ public final class PartsTest {
         share();
         shareLimit();
         shareOfLaterPart();
+        allChordsTied();
         set();
         count();
         due.end();
@@ -107,6 +108,24 @@ public final class PartsTest {
         due.is("14: 1 is left", x.part(2, 3), -1);
         x.tunes(4, 0, 1, 1);
         due.is("15: e is 0", x.share(2), 0);
+    }
+
+    /** As many chords as there can be, each root the farthest from the one ahead. */
+    private static void allChordsTied() {
+        CommaChoir x = new CommaChoir();
+        for (int c = 0; c < 12; c++) {
+            Choirs.add(x, 64, 1, 1, 64);
+        }
+        for (int c = 0; c < 11; c++) {
+            due.is("5: hold", x.holds(c, 0, 1), 0);
+        }
+        due.is("10: size", x.root(11, 4), 11 * 12 * 120000);
+        due.is("14: no drift", x.part(0, 2), 0);
+        x.tunes(11, 1, 1, 63);
+        due.are("14: drift of 63 by 64", partRow(x, 0), 0, 12, -2725, 0);
+        due.is("15: first", x.share(7), 248);
+        due.is("15: last", x.share(10), 247);
+        due.is("16: all", x.set(11), 2725);
     }
 
     private static void set() {
