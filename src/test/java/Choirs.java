@@ -26,6 +26,20 @@ final class Choirs {
         return x;
     }
 
+    /** One part: each row n, d, n, d is a tie, the ratio held and the ratio it is held as. */
+    static CommaChoir chain(int[][] ties) {
+        CommaChoir x = new CommaChoir();
+        for (int c = 0; c <= ties.length; c++) {
+            add(x, 1, 1, 1, 1);
+            if (c > 0) {
+                x.tunes(c - 1, 0, ties[c - 1][0], ties[c - 1][1]);
+                x.tunes(c, 1, ties[c - 1][2], ties[c - 1][3]);
+                x.holds(c - 1, 0, 1);
+            }
+        }
+        return x;
+    }
+
     static void typeAll(CommaChoir x, String text) {
         x.clear();
         for (int i = 0; i < text.length(); i++) {

@@ -8,6 +8,7 @@ public final class PartsTest {
         shareLimit();
         shareOfLaterPart();
         allChordsTied();
+        leastDrift();
         set();
         count();
         due.end();
@@ -126,6 +127,25 @@ public final class PartsTest {
         due.is("15: first", x.share(7), 248);
         due.is("15: last", x.share(10), 247);
         due.is("16: all", x.set(11), 2725);
+    }
+
+    /** 3 to -13, 5 to 21, 7 to 6 is 1 over 45 octaves; turned round it is 1 under them. */
+    private static void leastDrift() {
+        int[][] up = {{25, 27, 27, 25}, {25, 27, 27, 25}, {25, 1, 1, 25}, {25, 1, 1, 25}, {25, 1, 1, 25},
+            {5, 3, 1, 1}, {49, 1, 1, 49}, {49, 1, 1, 1}};
+        CommaChoir x = Choirs.chain(up);
+        due.is("10: size", x.root(8, 4), 5400001);
+        due.are("14: drift 1", partRow(x, 0), 0, 9, 1, 0);
+        due.are("15: the first alone", shares(x, 8), -1, 0, 0, 0, 0, 0, 0, 0);
+        int[][] down = new int[up.length][];
+        for (int c = 0; c < up.length; c++) {
+            down[c] = new int[] {up[c][2], up[c][3], up[c][0], up[c][1]};
+        }
+        CommaChoir y = Choirs.chain(down);
+        due.are("14: drift -1", partRow(y, 0), 0, 9, -1, 0);
+        due.are("15: the first alone, turned", shares(y, 8), 1, 0, 0, 0, 0, 0, 0, 0);
+        y.limit(0);
+        due.are("14: rest -1", partRow(y, 0), 0, 9, -1, -1);
     }
 
     private static void set() {
