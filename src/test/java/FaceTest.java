@@ -1,10 +1,16 @@
+import java.io.IOException;
 import java.lang.reflect.Constructor;
 import java.lang.reflect.Field;
 import java.lang.reflect.Method;
 import java.lang.reflect.Modifier;
+import java.nio.file.Files;
+import java.nio.file.Path;
 import java.util.Arrays;
 import java.util.Set;
 import java.util.TreeSet;
+import java.util.regex.Matcher;
+import java.util.regex.Pattern;
+import java.util.stream.Collectors;
 
 /** The public face is the document's, and nothing else can be seen from outside. */
 public final class FaceTest {
@@ -18,7 +24,7 @@ public final class FaceTest {
 
     private static final Due due = new Due();
 
-    public static void main(String[] args) {
+    public static void main(String[] args) throws IOException {
         Class<?> face = CommaChoir.class;
         due.is("public and final", face.getModifiers(), Modifier.PUBLIC | Modifier.FINAL);
         methods(face);
@@ -31,7 +37,42 @@ public final class FaceTest {
             due.is(inside + " static", inside.getModifiers() & Modifier.STATIC, Modifier.STATIC);
             due.is(inside + " not public", inside.getModifiers() & (Modifier.PUBLIC | Modifier.PROTECTED), 0);
         }
+        String source = Files.readString(Path.of(System.getProperty("choir.source", "src/main/java/CommaChoir.java")));
+        String document = Files.readString(Path.of(System.getProperty("choir.document", "../shared/DOC.md")));
+        written(source, document);
+        groups(source, document);
         due.end();
+    }
+
+    /** Every row of the document's face stands in the source, word by word. */
+    private static void written(String source, String document) {
+        Matcher row = Pattern.compile("(?m)^ +(public .*\\));$").matcher(document);
+        int rows = 0;
+        while (row.find()) {
+            rows++;
+            due.is("written so: " + row.group(1), source.contains("\n    " + row.group(1) + " {\n") ? 1 : 0, 1);
+        }
+        due.is("calls of the face, with its constructor", rows, FACE.length + 1);
+    }
+
+    /** The calls stand in the document's groups, each behind the words that the interface says. */
+    private static void groups(String source, String document) {
+        Matcher group = Pattern.compile("Ahead of the calls (.*?) the interface says: (---- \\w+)\\.").matcher(document);
+        int groups = 0;
+        while (group.find()) {
+            groups++;
+            String want = group.group(1).replace("`", "");
+            String got = callsBehind(source, "// " + group.group(2) + "\n");
+            due.is(group.group(2) + ": " + got, got.equals(want) ? 1 : 0, 1);
+        }
+        due.is("groups", groups, 5);
+    }
+
+    private static String callsBehind(String source, String words) {
+        String[] parts = source.split(Pattern.quote(words), 2);
+        String group = parts.length < 2 ? "" : parts[1].split("// ----", 2)[0];
+        return Pattern.compile("(?m)^    public \\w+ (\\w+)\\(").matcher(group).results()
+            .map(found -> found.group(1)).collect(Collectors.joining(", "));
     }
 
     private static void methods(Class<?> face) {
